@@ -422,7 +422,7 @@ public final class GoalsInAQueue {
     private static int walk(int[] bindings, int term) {
         int at = term;
         for (int turn = 0; turn < 2 * SECOND; turn++) {
-            if (!isVariable(at) || at >= bindings.length || bindings[at] == OPEN) {
+            if (at < 0 || at >= ATOM || at >= bindings.length || bindings[at] == OPEN) {
                 return at;
             }
             at = bindings[at];
@@ -432,10 +432,10 @@ public final class GoalsInAQueue {
 
     /** The TERM of a second ANSWER, whose open VARIABLES are others than those of the first. */
     private static int asSecond(int term) {
-        if (isPair(term)) {
+        if (term >= PAIR) {
             return term + SECOND_PAIR - PAIR;
         }
-        return isVariable(term) ? term + SECOND : term;
+        return term >= 0 && term < ATOM ? term + SECOND : term;
     }
 
     private static int greatestDivisor(int a, int b) {
@@ -616,13 +616,16 @@ public final class GoalsInAQueue {
         }
 
         void retell(Script other) {
-            copy(other);
-            forgetUnfolded();
+            copyUpTo(other, other.toldGoals, other.toldPairs);
         }
 
         void copy(Script other) {
-            goals = Math.min(Math.max(other.goals, 0), GOALS_ROOM);
-            pairs = Math.min(Math.max(other.pairs, 0), PAIRS_ROOM);
+            copyUpTo(other, other.goals, other.pairs);
+        }
+
+        private void copyUpTo(Script other, int goalsEnd, int pairsEnd) {
+            goals = Math.min(Math.max(goalsEnd, 0), GOALS_ROOM);
+            pairs = Math.min(Math.max(pairsEnd, 0), PAIRS_ROOM);
             System.arraycopy(other.kinds, 0, kinds, 0, goals);
             System.arraycopy(other.parts, 0, parts, 0, 3 * goals);
             System.arraycopy(other.halves, 0, halves, 0, 2 * pairs);
@@ -901,6 +904,8 @@ public final class GoalsInAQueue {
         private final int[] waiting;
         private final int[] seeking;
         private final int[] bound;
+        private final int[] seen;
+        private int looks;
         private int waits;
         private int bounds;
 
@@ -908,6 +913,8 @@ public final class GoalsInAQueue {
             waiting = new int[STACK_ROOM];
             seeking = new int[STACK_ROOM];
             bound = new int[2 * SECOND];
+            seen = new int[2 * SECOND];
+            looks = 0;
             waits = 0;
             bounds = 0;
         }
@@ -924,9 +931,9 @@ public final class GoalsInAQueue {
                     continue;
                 }
                 if (isVariable(a)) {
-                    fits = binds(script, bindings, a, b);
+                    fits = !isIn(script, bindings, a, b) && binds(bindings, a, b);
                 } else if (isVariable(b)) {
-                    fits = binds(script, bindings, b, a);
+                    fits = !isIn(script, bindings, b, a) && binds(bindings, b, a);
                 } else {
                     fits = isPair(a) && isPair(b)
                         && push(script.halfOf(a, 1), script.halfOf(b, 1))
@@ -957,32 +964,40 @@ public final class GoalsInAQueue {
             return true;
         }
 
-        /** Binds an open VARIABLE, but not to a TERM in which it is. */
-        private boolean binds(Script script, int[] bindings, int variable, int term) {
-            seeking[0] = term;
-            int seeks = 1;
-            for (int turn = 0; turn < TURNS_MOST && seeks > 0; turn++) {
-                seeks--;
-                int at = walk(bindings, seeking[seeks]);
-                if (at == variable) {
-                    return false;
-                }
-                if (isPair(at)) {
-                    if (seeks > STACK_ROOM - 2) {
-                        return false;
-                    }
-                    seeking[seeks] = script.halfOf(at, 1);
-                    seeking[seeks + 1] = script.halfOf(at, 0);
-                    seeks += 2;
-                }
-            }
-            if (seeks > 0 || variable < 0 || variable >= bindings.length || bounds < 0 || bounds >= bound.length) {
+        private boolean binds(int[] bindings, int variable, int term) {
+            if (variable < 0 || variable >= bindings.length || bounds < 0 || bounds >= bound.length) {
                 return false;
             }
             bindings[variable] = term;
             bound[bounds] = variable;
             bounds++;
             return true;
+        }
+
+        private boolean isIn(Script script, int[] bindings, int variable, int term) {
+            looks++;
+            seeking[0] = term;
+            int seeks = 1;
+            for (int turn = 0; turn < TURNS_MOST && seeks > 0; turn++) {
+                seeks--;
+                int at = seeking[seeks];
+                if (at == variable || seeks > STACK_ROOM - 2) {
+                    return true;
+                }
+                if (at >= PAIR) {
+                    seeking[seeks] = script.halfOf(at, 1);
+                    seeking[seeks + 1] = script.halfOf(at, 0);
+                    seeks += 2;
+                } else if (at >= 0 && at < seen.length && at < bindings.length && seen[at] != looks) {
+                    // A TERM may have the same VARIABLE very often: once is enough to look into it.
+                    seen[at] = looks;
+                    if (bindings[at] != OPEN) {
+                        seeking[seeks] = bindings[at];
+                        seeks++;
+                    }
+                }
+            }
+            return seeks > 0;
         }
     }
 
@@ -1101,7 +1116,7 @@ public final class GoalsInAQueue {
             int y = script.partOf(goal, 1);
             switch (script.kindOf(goal)) {
                 case '=':
-                    if (joins(now, x, y)) {
+                    if (unifier.unify(script, now.bindings, x, y)) {
                         settle(now);
                     }
                     break;
@@ -1125,41 +1140,52 @@ public final class GoalsInAQueue {
                     enqueue(now);
                     break;
                 case 'A':
-                    append(x, y, script.partOf(goal, 2));
+                    branch.copy(now);
+                    if (appendEnds(x, y, script.partOf(goal, 2))) {
+                        settle(branch);
+                    }
+                    if (appendGoesOn(x, y, script.partOf(goal, 2))) {
+                        settle(now);
+                    }
                     break;
                 case 'M':
-                    member(x, y);
+                    branch.copy(now);
+                    if (memberIsFirst(x, y)) {
+                        settle(branch);
+                    }
+                    if (memberIsBehind(x, y)) {
+                        settle(now);
+                    }
                     break;
                 default:
                     break;
             }
         }
 
-        private void append(int x, int y, int z) {
-            branch.copy(now);
-            if (joins(branch, x, EMPTY) && joins(branch, y, z)) {
-                settle(branch);
-            }
+        private boolean appendEnds(int x, int y, int z) {
+            return unifier.unify(script, branch.bindings, x, EMPTY)
+                && unifier.unify(script, branch.bindings, y, z);
+        }
+
+        private boolean appendGoesOn(int x, int y, int z) {
             int h = now.fresh();
             int t = now.fresh();
             int u = now.fresh();
-            if (joins(now, x, script.addPair(h, t)) && joins(now, z, script.addPair(h, u))) {
-                now.push(relation('A', t, y, u));
-                settle(now);
-            }
+            now.push(relation('A', t, y, u));
+            return unifier.unify(script, now.bindings, x, script.addPair(h, t))
+                && unifier.unify(script, now.bindings, z, script.addPair(h, u));
         }
 
-        private void member(int x, int list) {
-            branch.copy(now);
-            if (joins(branch, list, script.addPair(x, branch.fresh()))) {
-                settle(branch);
-            }
+        private boolean memberIsFirst(int x, int list) {
+            int t = branch.fresh();
+            return unifier.unify(script, branch.bindings, list, script.addPair(x, t));
+        }
+
+        private boolean memberIsBehind(int x, int list) {
             int h = now.fresh();
             int t = now.fresh();
-            if (joins(now, list, script.addPair(h, t))) {
-                now.push(relation('M', x, t, EMPTY));
-                settle(now);
-            }
+            now.push(relation('M', x, t, EMPTY));
+            return unifier.unify(script, now.bindings, list, script.addPair(h, t));
         }
 
         private int relation(int kind, int x, int y, int z) {
@@ -1168,10 +1194,6 @@ public final class GoalsInAQueue {
             script.setPart(goal, 1, y);
             script.setPart(goal, 2, z);
             return goal;
-        }
-
-        private boolean joins(State state, int one, int other) {
-            return unifier.unify(script, state.bindings, one, other);
         }
 
         /** Looks at the KEPT ones again: two that need no binding more are the same already. */
@@ -1299,7 +1321,7 @@ public final class GoalsInAQueue {
 
         int below(int m) {
             z = z * 1664525 + 1013904223;
-            return m < 1 ? 0 : (z & Integer.MAX_VALUE) / 256 % m;
+            return m < 1 ? 0 : (z & 0x7fffffff) / 256 % m;
         }
 
         int drawTerm(Script script) {
