@@ -610,11 +610,7 @@ public final class GoalsInAQueue {
             toldTerms = terms;
         }
 
-        void forgetUnfolded() {
-            goals = toldGoals;
-            pairs = toldPairs;
-        }
-
+        /** What the other was told, without what its SEARCH has unfolded. */
         void retell(Script other) {
             copyUpTo(other, other.toldGoals, other.toldPairs);
         }
@@ -1034,8 +1030,8 @@ public final class GoalsInAQueue {
             begin();
         }
 
+        /** The script must hold just what it was told: what is unfolded goes behind that. */
         void begin() {
-            script.forgetUnfolded();
             head = 0;
             size = 0;
             step = 0;

@@ -200,6 +200,11 @@ public final class PromisesTest {
         fault("&".repeat(12) + "=ab".repeat(13), -2048);
         fault("&".repeat(12) + "A(ab)(ab)c" + "Aabc".repeat(12), -2066);
         fault("&".repeat(12) + "A(ab)(ab)(ab)" + "Aabc".repeat(12), -2067);
+        for (int c = 0; c < 256; c++) {
+            fault("" + (char) c, "*!".indexOf(c) >= 0 ? 1 : "=#&|AM".indexOf(c) >= 0 ? -1001 : -1000);
+            fault("=a" + (char) c, "abcdef0123456789n".indexOf(c) >= 0 ? 1 : c == '(' ? -1003 : -1002);
+            fault("=a(b1" + (char) c, c == ')' ? 1 : -1005);
+        }
         GoalsInAQueue x = with("=" + "(a".repeat(19) + "a" + ")".repeat(19) + "b");
         Check.due("40 terms", x.count(3), 40);
         Check.due("an answer of 40 terms", x.steps(2), 1);
@@ -403,6 +408,12 @@ public final class PromisesTest {
         GoalsInAQueue gone = after("Aab" + "(1".repeat(18) + "n" + ")".repeat(18), 100);
         Check.due("19 answers of a list", gone.answers(), 19);
         Check.due("what fails is gone, not lost", gone.queue(1), 0);
+
+        GoalsInAQueue chains = after("|".repeat(9) + "Maa".repeat(10), 289);
+        Check.due("ten lists without an end are lost", chains.queue(1), 10);
+        Check.due("each behind 28 steps", chains.count(0), 289);
+        Check.due("none is left", chains.queue(0), 0);
+        Check.due("none is an answer", chains.answers(), 0);
 
         GoalsInAQueue w = with("&|**&|**&|**&|**&|**|**");
         w.steps(100);
