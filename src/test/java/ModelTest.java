@@ -130,8 +130,10 @@ public final class ModelTest {
             return "(" + term(depth - 1) + term(depth - 1) + ")";
         }
         int kind = random.nextInt(9);
-        return kind < 6 ? "" + (char) ('a' + random.nextInt(6)) : kind < 8 ? "" + random.nextInt(random.nextInt(3) == 0 ? 10 : 3)
-            : "n";
+        if (kind < 6) {
+            return "" + (char) ('a' + random.nextInt(6));
+        }
+        return kind < 8 ? "" + random.nextInt(random.nextInt(3) == 0 ? 10 : 3) : "n";
     }
 
     private int answer() {
