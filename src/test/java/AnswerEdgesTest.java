@@ -283,7 +283,12 @@ public final class AnswerEdgesTest {
         Check.due("fresh ones are others", Calls.after("|Mca=a(1(2n))", 20).meet(0, 1), 1);
         GoalsInAQueue x = Calls.after("&Mab|=c1=c(bn)", 20);
         Check.due("with itself", x.meet(0, 0), 1);
-        Check.due("lists of one and of two", Calls.after("Mab", 20).meet(0, 1), 1);
+        GoalsInAQueue ends = Calls.after("Mab", 60);
+        for (int i = 0; i < 27; i++) {
+            Check.due("open ends 0 " + i, ends.meet(0, i), 1);
+            Check.due("open ends " + i + " 0", ends.meet(i, 0), 1);
+            Check.due("open ends " + i + " 13", ends.meet(i, 13), 1);
+        }
         GoalsInAQueue lists = Calls.after("Aabc", 38);
         for (int i = 0; i < 19; i++) {
             Check.due("with itself " + i, lists.meet(i, i), 1);
